@@ -63,6 +63,9 @@ public final class BuildTest {
         x.build(3);
         x.drop();
         x.drop();
+        Check.due("outputs() with the circuit's gates dropped", x.outputs(), 2);
+        Check.due("clock(1) with the circuit's gates dropped", x.clock(1), 1);
+        Check.due("clock(1) once more", x.clock(1), 0);
         x.gate(0, 0, 0, 0);
         x.gate(2, 0, 0, 0);
         x.gate(2, 1, 1, 0);
@@ -104,12 +107,7 @@ public final class BuildTest {
     }
 
     private static void fillWithCounter(CellFabric x) {
-        int carry = 0;
-        for (int r = 0; r < 6; r++) {
-            int sum = x.gate(2, 6 + r, carry, 0);
-            carry = x.gate(0, 6 + r, carry, 0);
-            x.next(r, sum);
-        }
+        Circuits.counter(x, 0);
         for (int g = 12; g < 20; g++) {
             x.gate(3, 11 + g, 11 + g, 0);
         }

@@ -44,10 +44,7 @@ public final class DeviceTest {
 
     private static void clock() {
         CellFabric x = new CellFabric();
-        x.next(0, 0);
-        for (int r = 1; r < 6; r++) {
-            x.next(r, 5 + r);
-        }
+        Circuits.shifter(x);
         for (int n = -1; n <= 21; n++) {
             Check.due("clock(" + n + ") of nothing", x.clock(n), CellFabric.BAD);
         }
@@ -71,25 +68,14 @@ public final class DeviceTest {
 
     private static void cyclesAreCounted() {
         for (int n = 0; n <= 20; n++) {
-            CellFabric x = counter();
+            CellFabric x = new CellFabric();
+            Circuits.counter(x, 0);
+            x.build(0);
+            x.set(0, 1);
             Check.due("counter: clock(" + n + ")", x.clock(n), n);
             Check.due("counter: registers()", x.registers(), n);
             Check.due("counter: clock(20) on", x.clock(20), n + 20);
         }
-    }
-
-    // A counter of all six registers that input 0 lets count.
-    private static CellFabric counter() {
-        CellFabric x = new CellFabric();
-        int carry = 0;
-        for (int r = 0; r < 6; r++) {
-            int sum = x.gate(2, 6 + r, carry, 0);
-            carry = x.gate(0, 6 + r, carry, 0);
-            x.next(r, sum);
-        }
-        x.build(0);
-        x.set(0, 1);
-        return x;
     }
 
     private static void registersMoveAtOnce() {

@@ -38,10 +38,7 @@ public final class LoopTest {
 
     private static void shiftsOut() {
         CellFabric x = new CellFabric();
-        x.next(0, 0);
-        for (int r = 1; r < 6; r++) {
-            x.next(r, 5 + r);
-        }
+        Circuits.shifter(x);
         x.build(0);
         for (int r = 5; r >= 0; r--) {
             x.load(r, 1);
@@ -77,14 +74,7 @@ public final class LoopTest {
         for (int r = 1; r < 6; r++) {
             full = x.gate(0, full, 6 + r, 0);
         }
-        int carry = x.gate(3, full, full, 0);
-        for (int r = 0; r < 6; r++) {
-            int sum = x.gate(2, 6 + r, carry, 0);
-            if (r < 5) {
-                carry = x.gate(0, 6 + r, carry, 0);
-            }
-            x.next(r, sum);
-        }
+        Circuits.counter(x, x.gate(3, full, full, 0));
         x.build(0);
         due("a counter that stops", x, 63, 1);
         x.clock(20);
@@ -97,12 +87,7 @@ public final class LoopTest {
 
     private static void longestPeriod() {
         CellFabric x = new CellFabric();
-        int carry = 0;
-        for (int r = 0; r < 6; r++) {
-            int sum = x.gate(2, 6 + r, carry, 0);
-            carry = x.gate(0, 6 + r, carry, 0);
-            x.next(r, sum);
-        }
+        Circuits.counter(x, 0);
         x.build(0);
         due("a counter that is held", x, 0, 1);
         x.set(0, 1);
