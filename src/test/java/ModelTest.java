@@ -1,7 +1,6 @@
 /** All promises at once: long mixed runs, the same each time, beside the model. */
 public final class ModelTest {
     private static final int RUNS = 3000;
-    private static final int CALLS = 512;
 
     private static long seed;
     private static int longestTail;
@@ -10,13 +9,12 @@ public final class ModelTest {
     public static void main(String[] args) {
         for (int run = 0; run < RUNS; run++) {
             seed = run;
-            CellFabric x = new CellFabric();
-            Model model = new Model();
+            Pair p = new Pair("run " + run);
             // Some runs start with a full circuit, others grow theirs bit by bit.
             int opening = run % 3 == 0 ? 0 : 40;
-            for (int call = 0; call < CALLS; call++) {
+            for (int call = 0; call < Pair.MOST_CALLS; call++) {
                 int which = call < opening ? upTo(16) % 4 : upTo(24);
-                step(run + "." + call + " ", which, x, model);
+                step(which, p);
             }
         }
         System.out.println("longest tail " + longestTail + ", longest period " + longestPeriod);
@@ -25,75 +23,24 @@ public final class ModelTest {
         Check.end();
     }
 
-    private static void step(String at, int which, CellFabric x, Model model) {
-        if (which < 8) {
-            circuitCall(at, which, x, model);
-        } else {
-            deviceCall(at, which, x, model);
-        }
-    }
-
-    private static void circuitCall(String at, int which, CellFabric x, Model model) {
-        int signal = near(model.signals());
+    private static void step(int which, Pair p) {
         switch (which) {
-            case 0, 1 -> {
-                int kind = near(10);
-                int b = near(model.signals());
-                int c = near(model.signals());
-                String call = "gate(" + kind + ", " + signal + ", " + b + ", " + c + ")";
-                Check.due(at + call, x.gate(kind, signal, b, c), model.gate(kind, signal, b, c));
-            }
-            case 2, 4 -> {
-                int r = near(6);
-                Check.due(at + "next(" + r + ", " + signal + ")", x.next(r, signal), model.next(r, signal));
-            }
-            case 3, 5 -> {
-                int o = near(4);
-                Check.due(at + "show(" + o + ", " + signal + ")", x.show(o, signal), model.show(o, signal));
-            }
-            case 6 -> Check.due(at + "drop()", x.drop(), model.drop());
-            default -> Check.due(at + "signals()", x.signals(), model.signals());
-        }
-    }
-
-    private static void deviceCall(String at, int which, CellFabric x, Model model) {
-        switch (which) {
-            case 8, 9 -> {
-                int chance = near(1001);
-                Check.due(at + "build(" + chance + ")", x.build(chance), model.build(chance));
-            }
-            case 10 -> Check.due(at + "built()", x.built(), model.built());
-            case 11, 12 -> {
-                int i = near(6);
-                int v = near(2);
-                Check.due(at + "set(" + i + ", " + v + ")", x.set(i, v), model.set(i, v));
-            }
-            case 13 -> Check.due(at + "inputs()", x.inputs(), model.inputs());
-            case 14 -> {
-                int n = near(21);
-                Check.due(at + "clock(" + n + ")", x.clock(n), model.clock(n));
-            }
-            case 15 -> Check.due(at + "registers()", x.registers(), model.registers());
-            case 16, 17 -> {
-                int r = near(6);
-                int v = near(2);
-                Check.due(at + "load(" + r + ", " + v + ")", x.load(r, v), model.load(r, v));
-            }
-            case 18 -> Check.due(at + "outputs()", x.outputs(), model.outputs());
-            case 19, 20, 21 -> {
-                int levels = near(64);
-                Check.due(at + "feed(" + levels + ")", x.feed(levels), model.feed(levels));
-            }
-            case 22 -> {
-                int tail = model.tail();
-                longestTail = Math.max(longestTail, tail);
-                Check.due(at + "tail()", x.tail(), tail);
-            }
-            default -> {
-                int period = model.period();
-                longestPeriod = Math.max(longestPeriod, period);
-                Check.due(at + "period()", x.period(), period);
-            }
+            case 0, 1 -> p.both("gate", near(10), near(p.signals()), near(p.signals()), near(p.signals()));
+            case 2, 4 -> p.both("next", near(6), near(p.signals()));
+            case 3, 5 -> p.both("show", near(4), near(p.signals()));
+            case 6 -> p.both("drop");
+            case 7 -> p.both("signals");
+            case 8, 9 -> p.both("build", near(1001));
+            case 10 -> p.both("built");
+            case 11, 12 -> p.both("set", near(6), near(2));
+            case 13 -> p.both("inputs");
+            case 14 -> p.both("clock", near(21));
+            case 15 -> p.both("registers");
+            case 16, 17 -> p.both("load", near(6), near(2));
+            case 18 -> p.both("outputs");
+            case 19, 20, 21 -> p.both("feed", near(64));
+            case 22 -> longestTail = Math.max(longestTail, p.both("tail"));
+            default -> longestPeriod = Math.max(longestPeriod, p.both("period"));
         }
     }
 
