@@ -7,9 +7,13 @@ final class Check {
 
     static void due(String call, long got, long want) {
         if (got != want) {
-            wrong++;
-            System.out.println(call + " answered " + got + ", due is " + want);
+            wrong(call + " answered " + got + ", due is " + want);
         }
+    }
+
+    static void wrong(String what) {
+        wrong++;
+        System.out.println(what);
     }
 
     static void due(String call, boolean got, boolean want) {
